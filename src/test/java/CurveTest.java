@@ -37,7 +37,7 @@ public final class CurveTest {
     private static void isPoint(int a) {
         Model model = new Model(a);
         Subject subject = new Subject(a);
-        for (int p = -300; p <= 33000; p++) {
+        for (int p = -33000; p <= 33000; p++) {
             Check.due("isPoint", subject.get().isPoint(p), model.isPoint(p), p);
         }
         for (int p : BELOW) {
