@@ -108,18 +108,18 @@ public final class GroupTest {
     private void noPoints() {
         int[] points = {1, model.points[5], Model.O};
         for (int bad : noPoints) {
-            refused("negate", subject.get().negate(bad), bad);
-            refused("order", subject.get().order(bad), bad);
-            refused("square", subject.get().square(bad), bad);
-            refused("add", subject.get().add(bad, bad), bad, bad);
-            refused("multiple", subject.get().multiple(0, bad), 0, bad);
-            refused("multiple", subject.get().multiple(3, bad), 3, bad);
-            refused("combine", subject.get().combine(0, bad, 0, bad), 0, bad, 0, bad);
+            Check.refused("negate", subject.get().negate(bad), bad);
+            Check.refused("order", subject.get().order(bad), bad);
+            Check.refused("square", subject.get().square(bad), bad);
+            Check.refused("add", subject.get().add(bad, bad), bad, bad);
+            Check.refused("multiple", subject.get().multiple(0, bad), 0, bad);
+            Check.refused("multiple", subject.get().multiple(3, bad), 3, bad);
+            Check.refused("combine", subject.get().combine(0, bad, 0, bad), 0, bad, 0, bad);
             for (int p : points) {
-                refused("add", subject.get().add(bad, p), bad, p);
-                refused("add", subject.get().add(p, bad), p, bad);
-                refused("combine", subject.get().combine(0, bad, 2, p), 0, bad, 2, p);
-                refused("combine", subject.get().combine(2, p, 0, bad), 2, p, 0, bad);
+                Check.refused("add", subject.get().add(bad, p), bad, p);
+                Check.refused("add", subject.get().add(p, bad), p, bad);
+                Check.refused("combine", subject.get().combine(0, bad, 2, p), 0, bad, 2, p);
+                Check.refused("combine", subject.get().combine(2, p, 0, bad), 2, p, 0, bad);
             }
         }
     }
@@ -127,14 +127,10 @@ public final class GroupTest {
     private void timesOutOfRange() {
         for (int bad : NO_TIMES) {
             for (int p : model.points) {
-                refused("multiple", subject.get().multiple(bad, p), bad, p);
-                refused("combine", subject.get().combine(bad, p, 1, 1), bad, p, 1, 1);
-                refused("combine", subject.get().combine(1, 1, bad, p), 1, 1, bad, p);
+                Check.refused("multiple", subject.get().multiple(bad, p), bad, p);
+                Check.refused("combine", subject.get().combine(bad, p, 1, 1), bad, p, 1, 1);
+                Check.refused("combine", subject.get().combine(1, 1, bad, p), 1, 1, bad, p);
             }
         }
-    }
-
-    private static void refused(String method, int got, int... arguments) {
-        Check.due(method, got, KoblitzTauNaf.BAD_ARG, arguments);
     }
 }
