@@ -1,4 +1,4 @@
-/** The boundary cases that promises 1 to 6 name, a test for each sentence, with the answers written out. */
+/** The boundary cases that promises 1 to 6 name, a test for each sentence. */
 public final class CurveEdgeTest {
     private static final int O = KoblitzTauNaf.O;
     private static final int NONE = KoblitzTauNaf.NONE;

@@ -1,4 +1,4 @@
-/** The boundary cases that promises 7 to 16 name, a test for each sentence, with the answers written out. */
+/** The boundary cases that promises 7 to 16 name, a test for each sentence. */
 public final class PointEdgeTest {
     private static final int O = KoblitzTauNaf.O;
     private static final int NONE = KoblitzTauNaf.NONE;
