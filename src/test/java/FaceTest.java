@@ -1,20 +1,28 @@
 import java.lang.reflect.Member;
 import java.lang.reflect.Method;
 import java.lang.reflect.Modifier;
+import java.util.Arrays;
 import java.util.Set;
 import java.util.TreeSet;
+import java.util.stream.Collectors;
+import java.util.stream.Stream;
 
 /** The public face, the constants, and that a refused call and a used object change no answer. */
 public final class FaceTest {
+    private static final Class<?> TYPE = KoblitzTauNaf.class;
+
     private static final Set<String> FACE = Set.of(
-        "int BAD_ARG", "int NONE", "int O", "KoblitzTauNaf(int)",
-        "int times(int, int)", "int over(int, int)", "boolean isPoint(int)", "int points()", "int next(int)",
-        "int add(int, int)", "int negate(int)", "int multiple(int, int)", "int combine(int, int, int, int)",
-        "int order(int)", "int half(int)", "int halves(int)", "int square(int)", "int log(int, int)");
+        "public static final int BAD_ARG", "public static final int NONE", "public static final int O",
+        "public KoblitzTauNaf(int)",
+        "public int times(int,int)", "public int over(int,int)", "public boolean isPoint(int)", "public int points()",
+        "public int next(int)", "public int add(int,int)", "public int negate(int)", "public int multiple(int,int)",
+        "public int combine(int,int,int,int)", "public int order(int)", "public int half(int)",
+        "public int halves(int)", "public int square(int)", "public int log(int,int)");
 
     public static void main(String[] args) {
         constants();
         face();
+        privateNames();
         sameAnswersAllAlong();
         Check.end();
     }
@@ -25,39 +33,28 @@ public final class FaceTest {
         Check.due("O", KoblitzTauNaf.O, 16384);
     }
 
+    /** Their modifiers count too: the tests, having no package either, can use what a user of the class can't. */
     private static void face() {
-        Class<?> type = KoblitzTauNaf.class;
-        Set<String> seen = new TreeSet<>();
-        for (var field : type.getDeclaredFields()) {
-            if (isSeen(field)) {
-                seen.add(field.getType() + " " + field.getName());
-            }
-        }
-        for (var made : type.getDeclaredConstructors()) {
-            if (isSeen(made)) {
-                seen.add(type.getName() + parameters(made.getParameterTypes()));
-            }
-        }
-        for (Method method : type.getDeclaredMethods()) {
-            if (isSeen(method)) {
-                seen.add(method.getReturnType() + " " + method.getName() + parameters(method.getParameterTypes()));
-            }
-        }
+        Stream<Member> members = Stream.of(
+            TYPE.getDeclaredFields(), TYPE.getDeclaredConstructors(), TYPE.getDeclaredMethods()).flatMap(Arrays::stream);
+        Set<String> seen = members.filter(member -> !isPrivate(member))
+            .map(member -> member.toString().replace("KoblitzTauNaf.", ""))
+            .collect(Collectors.toCollection(TreeSet::new));
         Check.due("the face is the document's, seen: " + seen, seen.equals(FACE), true);
-        int modifiers = type.getModifiers();
-        Check.due("public and final", Modifier.isPublic(modifiers) && Modifier.isFinal(modifiers), true);
+        Check.due("public and final", Modifier.toString(TYPE.getModifiers()).equals("public final"), true);
+        Check.due("nested classes", TYPE.getDeclaredClasses().length, 0);
     }
 
-    private static boolean isSeen(Member member) {
-        return !Modifier.isPrivate(member.getModifiers());
-    }
-
-    private static String parameters(Class<?>[] types) {
-        StringBuilder text = new StringBuilder("(");
-        for (Class<?> type : types) {
-            text.append(text.length() == 1 ? "" : ", ").append(type);
+    private static void privateNames() {
+        Set<String> open = Arrays.stream(TYPE.getMethods()).map(Method::getName).collect(Collectors.toSet());
+        for (Method method : TYPE.getDeclaredMethods()) {
+            boolean shared = isPrivate(method) && open.contains(method.getName());
+            Check.due("private and named as a public one: " + method.getName(), shared, false);
         }
-        return text.append(")").toString();
+    }
+
+    private static boolean isPrivate(Member member) {
+        return Modifier.isPrivate(member.getModifiers());
     }
 
     /** One object through 512 calls, refused ones between answered ones, beside a second object on the other curve. */
